@@ -872,8 +872,8 @@ public final class WishPlaces {
             int top = RULED_OUT;
             int many = 0;
             for (int c = 0; c <= places; c++) {
-                int child = next[e * CHOICES + c];
-                if (child >= 0 && ways[child] > 0) {
+                int child = childOf(e, c);
+                if (child != NONE && ways[child] > 0) {
                     int gain = gains[level * CHOICES + c] + best[child];
                     if (many == 0 || gain > top) {
                         top = gain;
@@ -889,8 +889,8 @@ public final class WishPlaces {
 
         /** How many of the best go on by a choice from an entry. */
         private int waysBy(int level, int e, int c) {
-            int child = next[e * CHOICES + c];
-            if (child < 0 || child >= ENTRIES || ways[child] == 0) {
+            int child = childOf(e, c);
+            if (child == NONE || ways[child] == 0) {
                 return 0;
             }
             return solvedGains[level * CHOICES + c] + best[child] == best[e] ? ways[child] : 0;
@@ -927,12 +927,13 @@ public final class WishPlaces {
             return ahead;
         }
 
+        /** The entry that a choice leads to, or NONE. */
         private int childOf(int e, int c) {
-            if (c < 0 || c >= CHOICES) {
-                return 0;
+            if (e < 0 || e >= ENTRIES || c < 0 || c >= CHOICES) {
+                return NONE;
             }
             int child = next[e * CHOICES + c];
-            return child < 0 || child >= ENTRIES ? 0 : child;
+            return child >= 0 && child < ENTRIES ? child : NONE;
         }
     }
 
@@ -1103,8 +1104,9 @@ public final class WishPlaces {
         private int serve(int r) {
             int served = 0;
             for (int a = 0; a < board.askers; a++) {
-                if (pointsAt[a] != NONE && isOnRing(a)) {
-                    gets[a] = holds[pointsAt[a]];
+                int next = pointsAt[a];
+                if (next >= 0 && next < ASKERS && isOnRing(a)) {
+                    gets[a] = holds[next];
                     servedIn[a] = r;
                     served++;
                 }
@@ -1113,17 +1115,11 @@ public final class WishPlaces {
         }
 
         private boolean isOnRing(int a) {
-            int at = a;
-            for (int i = 0; i < board.askers; i++) {
+            int at = pointsAt[a];
+            for (int i = 0; i < ASKERS && at != a && at >= 0 && at < ASKERS; i++) {
                 at = pointsAt[at];
-                if (at == a) {
-                    return true;
-                }
-                if (at < 0 || at >= ASKERS) {
-                    return false;
-                }
             }
-            return false;
+            return at == a;
         }
     }
 
