@@ -565,6 +565,7 @@ public final class PromisesTest {
         WishPlaces one = made(row(1), row(1));
         due("turn(0, 0)", one.turn(0, 0), 0);
         due("turn(1, 0)", one.turn(1, 0), BAD);
+        due("turn(10, 0), a digit too many", one.turn(8, 0), BAD);
     }
 
     // Promise 24
@@ -635,12 +636,31 @@ public final class PromisesTest {
         x.become(2, 0);
         x.become(2, 9);
         due("leaving(2, 0, NONE), none leaves what trade gave", x.leaving(2, 0, NONE), 0);
+        longestRing();
         due("leaving(4, 0, NONE)", x.leaving(4, 0, NONE), BAD);
         due("leaving(0, 4, NONE)", x.leaving(0, 4, NONE), BAD);
         due("leaving(0, 0, -2)", x.leaving(0, 0, -2), BAD);
         for (int w : WILD) {
             due("leaving(" + w + ", 0, 0)", x.leaving(w, 0, 0), BAD);
             due("leaving(0, " + w + ", 0)", x.leaving(0, w, 0), BAD);
+        }
+    }
+
+    private static void longestRing() {
+        // Each holds the place of its number; each wants that of another one, round and round.
+        int[] next = {3, 5, 4, 2, 1, 0};
+        WishPlaces x = made(row(1, 1, 1, 1, 1, 1), row(6, 0, 0, 5, 0, 0), row(0, 6, 0, 0, 0, 5), row(0, 0, 6, 0, 5, 0),
+                row(0, 0, 5, 6, 0, 0), row(0, 5, 0, 0, 6, 0), row(5, 0, 0, 0, 0, 6));
+        tell(x, 3, 0, 1, 2, 3, 4, 5);
+        due("leaving(3, 3, NONE), all six", x.leaving(3, 3, NONE), 6);
+        int at = 0;
+        for (int i = 0; i < 6; i++) {
+            due("leaving(3, 3, " + i + ")", x.leaving(3, 3, i), at);
+            at = next[at];
+        }
+        due("leaving(3, 3, 6)", x.leaving(3, 3, 6), NONE);
+        for (int a = 0; a < 6; a++) {
+            due("round(3, " + a + ")", x.round(3, a), 1);
         }
     }
 
