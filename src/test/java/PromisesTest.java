@@ -1,16 +1,12 @@
 /** Each promise of the document in turn: what is ordinary, the edges that it names, and what is refused. */
-public final class PromisesTest {
-    private static final Checks CHECKS = new Checks("PromisesTest");
-    private static final int NONE = -1;
-    private static final int BAD = -2;
-    private static final int NO = -3;
-    private static final int FULL = -4;
+public final class PromisesTest extends Boards {
     private static final int[] WILD = {Integer.MIN_VALUE, -100, -2, 9, 64, Integer.MAX_VALUE};
 
     private PromisesTest() {
     }
 
     public static void main(String[] args) {
+        begin("PromisesTest");
         newObject();
         askers();
         places();
@@ -35,50 +31,7 @@ public final class PromisesTest {
         envies();
         counts();
         digest();
-        CHECKS.end();
-    }
-
-    private static void due(String call, long got, long want) {
-        CHECKS.due(call, got, want);
-    }
-
-    /** Places with seats as told, then askers with rows of wishes. */
-    private static WishPlaces made(int[] seats, int[]... wishes) {
-        WishPlaces x = new WishPlaces();
-        for (int s : seats) {
-            x.place(s);
-        }
-        for (int a = 0; a < wishes.length; a++) {
-            x.asker();
-            for (int q = 0; q < seats.length; q++) {
-                due("wish at making", x.wish(a, q, wishes[a][q]), 0);
-            }
-        }
-        return x;
-    }
-
-    private static int[] row(int... values) {
-        return values;
-    }
-
-    private static void tell(WishPlaces x, int giving, int... row) {
-        for (int a = 0; a < row.length; a++) {
-            x.give(giving, a, NONE);
-        }
-        for (int a = 0; a < row.length; a++) {
-            due("give(" + giving + ", " + a + ", " + row[a] + ")", x.give(giving, a, row[a]), 1);
-        }
-    }
-
-    private static void dueRow(String what, WishPlaces x, int giving, int... row) {
-        for (int a = 0; a < row.length; a++) {
-            due(what + ": has(" + giving + ", " + a + ")", x.has(giving, a), row[a]);
-        }
-    }
-
-    private static void dueFraction(String what, WishPlaces x, long above, long below) {
-        due(what + ": part(0)", x.part(0), above);
-        due(what + ": part(1)", x.part(1), below);
+        end();
     }
 
     // Promise 1
@@ -768,13 +721,5 @@ public final class PromisesTest {
         x.factor(0);
         due("digest() with a fraction", x.digest(),
                 fold(2, 1, 2, 1, 2, 0, 5, -1, -1, -1, -1, -1, 0, -1, -1, 1, 0));
-    }
-
-    private static long fold(long... values) {
-        long h = 331;
-        for (long v : values) {
-            h = 31 * h + v;
-        }
-        return h;
     }
 }
