@@ -131,6 +131,11 @@ public final class AimsEdgesTest extends Boards {
         dueBecome(made(row(1, 1), row(4, 2), row(6, 5)), 0, MOST, 1, 0);
         dueBecome(made(row(1, 1), row(3, 4), row(4, 6)), 0, MOST, 1, 0);
         dueBecome(made(row(1, 1), row(3, 4), row(4, 4)), 0, MOST, 0, 1);
+        // A sum is a sum: v and v + 3 are as much as v + 1 and v + 2, so the first of both it is.
+        for (int v = 1; v <= 3; v++) {
+            dueBecome(made(row(1, 1), row(v + 1, v), row(v + 3, v + 2)), 0, MOST, 0, 1);
+            dueBecome(made(row(1, 1), row(v, v + 1), row(v + 2, v + 3)), 0, MOST, 0, 1);
+        }
     }
 
     private static void mostOfAll() {
@@ -248,6 +253,7 @@ public final class AimsEdgesTest extends Boards {
         WishPlaces one = made(row(1), row(1));
         due("turn(0, 0), one asker", one.turn(0, 0), 0);
         refused("turn(1, 0), one asker", one, BAD, () -> one.turn(1, 0));
+        refused("turn(010, 0), one asker", one, BAD, () -> one.turn(010, 0));
         WishPlaces nobody = made(row(1));
         refused("turn(0, 0), no askers", nobody, BAD, () -> nobody.turn(0, 0));
     }

@@ -37,6 +37,7 @@ class Boards {
         checks.holds("something holds: " + sentence, asked > 0);
         sentence = words + ": ";
         asked = 0;
+        checks.part();
     }
 
     static void end() {

@@ -3,6 +3,7 @@ final class Checks {
     private final String name;
     private int asked = 0;
     private int wrong = 0;
+    private int printed = 0;
 
     Checks(String name) {
         this.name = name;
@@ -12,10 +13,16 @@ final class Checks {
         asked++;
         if (got != want) {
             wrong++;
-            if (wrong <= 50) {
+            printed++;
+            if (printed <= 20) {
                 System.out.println(name + ": " + call + " answered " + got + ", due is " + want);
             }
         }
+    }
+
+    /** What follows is printed though much was printed already. */
+    void part() {
+        printed = 0;
     }
 
     void holds(String what, boolean is) {

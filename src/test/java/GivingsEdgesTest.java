@@ -514,6 +514,12 @@ public final class GivingsEdgesTest extends Boards {
         due("a wish less", x.givings(), 8);
         x.seats(0, 1);
         due("a seat less", x.givings(), 6);
+        WishPlaces four = madeAlike(row(3), 4, 0);
+        int[] many = {2, 4, 8, 15};
+        for (int a = 0; a < 4; a++) {
+            four.wish(3 - a, 0, 6);
+            due("a wish more, of one place with three seats", four.givings(), many[a]);
+        }
     }
 
     private static void firstAndLastGiving() {

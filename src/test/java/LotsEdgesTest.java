@@ -70,9 +70,12 @@ public final class LotsEdgesTest extends Boards {
 
     private static void lotsOfTakers() {
         takesSeatsLeft();
+        takesTheSixth();
+        takesNoSixthThatWent();
         takesLeastWish();
         takesLeastNumber();
         takesNone();
+        takesNoneOfOthers();
     }
 
     private static void takesSeatsLeft() {
@@ -84,6 +87,28 @@ public final class LotsEdgesTest extends Boards {
         WishPlaces kept = made(row(1, 1), row(1, 2), row(1, 0));
         dueChances(kept, 0, 1, 1);
         dueChances(kept, 1, 1, 0);
+    }
+
+    private static void takesTheSixth() {
+        sentence("Terms 5, promise 26: each in turn takes of PLACES: the sixth, too, and then none");
+        WishPlaces x = madeAlike(like(1, 6), 8, 1, 2, 3, 4, 5, 6);
+        dueChances(x, 0, like(5040, 6));
+        dueChances(x, 7, like(5040, 6));
+    }
+
+    private static void takesNoSixthThatWent() {
+        sentence("Terms 5, promises 26, 27: of PLACES: no WISH that went, of six");
+        WishPlaces x = madeAlike(like(1, 6), 7, 1, 2, 3, 4, 5, 0);
+        x.wish(0, 5, 6);
+        due("chance(0, 5)", x.chance(0, 5), 1440);
+        x.wish(0, 5, 0);
+        for (int q = 0; q < 5; q++) {
+            x.wish(6, q, 0);
+        }
+        x.wish(6, 5, 1);
+        due("chance(0, 5)", x.chance(0, 5), 0);
+        due("chance(6, 5), it is left to this one", x.chance(6, 5), 5040);
+        dueShare(x, 6, 5, 1, 1);
     }
 
     private static void takesLeastWish() {
@@ -114,6 +139,30 @@ public final class LotsEdgesTest extends Boards {
         WishPlaces after = made(row(1, 1), row(0, 0), row(1, 2));
         dueChances(after, 0, 0, 0);
         dueChances(after, 1, 2, 0);
+    }
+
+    private static void takesNoneOfOthers() {
+        sentence("Terms 5, promises 26, 27: ASKERS of whom no WISH was ever told take and eat nothing");
+        for (int a = 0; a < 8; a++) {
+            WishPlaces x = madeOfAskersAlone();
+            x.wish(a, 0, 6);
+            x.wish(a, 5, 6);
+            due("chance(" + a + ", 0)", x.chance(a, 0), 40320);
+            dueShare(x, a, 0, 1, 1);
+            due("chance(" + (7 - a) + ", 5)", x.chance(7 - a, 5), 0);
+            due("share(" + (7 - a) + ", 5)", x.share(7 - a, 5), 0);
+        }
+    }
+
+    private static WishPlaces madeOfAskersAlone() {
+        WishPlaces x = new WishPlaces();
+        for (int a = 0; a < 8; a++) {
+            x.asker();
+        }
+        for (int q = 0; q < 6; q++) {
+            x.place(1);
+        }
+        return x;
     }
 
     private static void chances() {
@@ -160,6 +209,10 @@ public final class LotsEdgesTest extends Boards {
     private static void eatenPlaces() {
         eatsSeats();
         eatsWhatIsLeft();
+        eatsTheSixth();
+        eatsAtOnce();
+        eatsAtOnceOfSeats();
+        eatsUpTogether();
         eatsLeastWish();
         eatsLeastNumber();
     }
@@ -186,6 +239,72 @@ public final class LotsEdgesTest extends Boards {
         WishPlaces late = made(row(1, 1), row(1, 2), row(1, 2), row(0, 1));
         dueShare(late, 2, 1, 2, 3);
         dueShare(late, 0, 1, 1, 6);
+    }
+
+    private static void eatsTheSixth() {
+        sentence("Terms 5, promise 27: each of PLACES: the sixth, too, and then none");
+        WishPlaces six = madeAlike(like(1, 6), 6, 1, 2, 3, 4, 5, 6);
+        WishPlaces eight = madeAlike(like(1, 6), 8, 1, 2, 3, 4, 5, 6);
+        for (int q = 0; q < 6; q++) {
+            dueShare(six, 5, q, 1, 6);
+            dueShare(eight, 7, q, 1, 8);
+        }
+        WishPlaces twice = madeAlike(like(2, 6), 8, 1, 2, 3, 4, 5, 6);
+        for (int i = 0; i < 3; i++) {
+            dueShare(twice, 7, 3, 1, 4);
+            due("share(7, 4), the time is up", twice.share(7, 4), 0);
+            dueShare(eight, 7, 5, 1, 8);
+        }
+    }
+
+    private static void eatsAtOnce() {
+        // Of one three eat and of another two: the first is up at 1/3, and one of the three goes on with the other one.
+        int[][] pairs = {{0, 1}, {1, 0}, {4, 5}, {5, 4}, {0, 5}, {5, 0}, {2, 3}};
+        for (int[] pair : pairs) {
+            sentence("Terms 5, promise 27: not eaten up: of two PLACES eaten at once that which is up first, " + pair[0]);
+            int three = pair[0];
+            int two = pair[1];
+            WishPlaces x = madeAlike(like(1, 6), 5, like(0, 6));
+            for (int a = 0; a < 5; a++) {
+                x.wish(a, a < 2 ? two : three, 1);
+            }
+            x.wish(0, three, 2);
+            x.wish(4, two, 2);
+            dueShare(x, 4, three, 1, 3);
+            dueShare(x, 4, two, 1, 9);
+            dueShare(x, 0, two, 4, 9);
+            dueShare(x, 1, two, 4, 9);
+            due("share(0, " + three + "), it is eaten up", x.share(0, three), 0);
+        }
+    }
+
+    private static void eatsAtOnceOfSeats() {
+        sentence("Terms 5, promise 27: not eaten up: of PLACES of unlike SEATS that which is up first");
+        // Two seats for three (2/3), one for two (1/2), of whom one goes on with the other place.
+        for (int big = 0; big < 2; big++) {
+            WishPlaces x = new WishPlaces();
+            x.place(2 - big);
+            x.place(1 + big);
+            for (int a = 0; a < 5; a++) {
+                x.asker();
+                x.wish(a, a < 3 ? big : 1 - big, 1);
+            }
+            x.wish(3, big, 2);
+            dueShare(x, 3, 1 - big, 1, 2);
+            dueShare(x, 3, big, 1, 8);
+            dueShare(x, 0, big, 5, 8);
+        }
+    }
+
+    private static void eatsUpTogether() {
+        sentence("Terms 5, promise 27: not eaten up: two PLACES that are up at the same time");
+        WishPlaces x = made(row(1, 1, 1), row(1, 2, 3), row(1, 2, 3), row(2, 1, 3), row(2, 1, 3));
+        dueShare(x, 0, 0, 1, 2);
+        due("share(0, 1), it is up, too", x.share(0, 1), 0);
+        dueShare(x, 0, 2, 1, 4);
+        dueShare(x, 3, 1, 1, 2);
+        due("share(3, 0), it is up, too", x.share(3, 0), 0);
+        dueShare(x, 3, 2, 1, 4);
     }
 
     private static void eatsLeastWish() {
@@ -314,6 +433,7 @@ public final class LotsEdgesTest extends Boards {
         enviesNobody();
         enviesByItsOwnWishes();
         enviesUpToAWish();
+        enviesAnew();
         enviesItself();
     }
 
@@ -353,6 +473,17 @@ public final class LotsEdgesTest extends Boards {
         x.wish(0, 1, 5);
         due("envies(0, 1), half of each", x.envies(0, 1), 0);
         due("envies(1, 0)", x.envies(1, 0), 0);
+    }
+
+    private static void enviesAnew() {
+        sentence("Promise 28: by SHARES as they are now");
+        WishPlaces x = made(row(1, 1), row(1, 0), row(0, 1));
+        due("share(1, 1)", x.share(1, 1), 1);
+        due("envies(0, 1)", x.envies(0, 1), 0);
+        x.wish(0, 0, 0);
+        x.wish(0, 1, 1);
+        due("envies(0, 1), half of it each", x.envies(0, 1), 0);
+        dueShare(x, 0, 1, 1, 2);
     }
 
     private static void enviesItself() {

@@ -47,6 +47,9 @@ public final class TradeEdgesTest extends Boards {
         WishPlaces x = madeAlike(row(1, 1), 3, 1, 2);
         dueTrade(x, row(NONE, 1, NONE), row(0, 1, 0), row(NONE, 1, NONE));
         dueTrade(x, row(NONE, NONE, NONE), row(0, 0, 0), row(NONE, NONE, NONE));
+        // 1 has no wish for what is held: it points at nobody, itself neither.
+        WishPlaces other = made(row(1, 1), row(1, 2), row(0, 1));
+        dueTrade(other, row(0, NONE), row(1, 0), row(0, NONE));
     }
 
     private static void ownersOfTheToldOne() {
@@ -111,6 +114,9 @@ public final class TradeEdgesTest extends Boards {
             WishPlaces x = made(row(1, 1, 1), row(0, v + 1, v), row(v, 6, 0), row(v, 0, 6));
             x.wish(0, 0, 6);
             dueTrade(x, row(0, 1, 2), row(1, 2, 1), row(2, 1, 0));
+            x.wish(0, 1, v);
+            x.wish(0, 2, v + 1);
+            dueTrade(x, row(0, 1, 2), row(1, 1, 2), row(1, 0, 2));
         }
     }
 
@@ -162,6 +168,7 @@ public final class TradeEdgesTest extends Boards {
 
     private static void serving() {
         ringsAtOnce();
+        ringsOfTheLast();
         ringsGiveThePointedAt();
         othersHaveNone();
         othersWait();
@@ -172,6 +179,27 @@ public final class TradeEdgesTest extends Boards {
         WishPlaces x = made(like(1, 5), row(2, 1, 0, 0, 0), row(1, 2, 0, 0, 0), row(0, 0, 2, 1, 0), row(0, 0, 1, 2, 0),
                 row(0, 0, 0, 0, 1));
         dueTrade(x, row(0, 1, 2, 3, 4), row(1, 1, 1, 1, 1), row(1, 0, 3, 2, 4));
+    }
+
+    private static void ringsOfTheLast() {
+        sentence("Terms 4, promise 24: All rings: that of the last of 8 ASKERS, too");
+        WishPlaces x = madeAlike(row(3, 3, 1, 1), 8, 1, 1, 0, 0);
+        x.wish(6, 2, 6);
+        x.wish(6, 3, 5);
+        x.wish(7, 2, 5);
+        x.wish(7, 3, 6);
+        x.wish(6, 0, 0);
+        x.wish(6, 1, 0);
+        x.wish(7, 0, 0);
+        x.wish(7, 1, 0);
+        dueTrade(x, row(0, 0, 0, 1, 1, 1, 2, 3), like(1, 8), row(0, 0, 0, 1, 1, 1, 3, 2));
+        WishPlaces far = madeAlike(row(1, 1), 8, 0, 0);
+        far.wish(0, 0, 2);
+        far.wish(0, 1, 1);
+        far.wish(7, 0, 1);
+        far.wish(7, 1, 2);
+        dueTrade(far, row(0, NONE, NONE, NONE, NONE, NONE, NONE, 1), row(1, 0, 0, 0, 0, 0, 0, 1),
+                row(1, NONE, NONE, NONE, NONE, NONE, NONE, 0));
     }
 
     private static void ringsGiveThePointedAt() {
@@ -230,6 +258,11 @@ public final class TradeEdgesTest extends Boards {
         WishPlaces x = madeAlike(like(1, 6), 6, 1, 2, 3, 4, 5, 6);
         dueTrade(x, row(0, 1, 2, 3, 4, 5), row(1, 2, 3, 4, 5, 6), row(0, 1, 2, 3, 4, 5));
         dueTrade(x, row(5, 4, 3, 2, 1, 0), row(6, 5, 4, 3, 2, 1), row(5, 4, 3, 2, 1, 0));
+        // 0 keeps what it has; 3 and 1 trade then, after which each waits for the one ahead, and 2 for the last.
+        WishPlaces seven = made(row(3, 1, 1, 1, 1, 1), row(1, 0, 0, 0, 0, 0), row(2, 1, 0, 0, 0, 0),
+                row(2, 0, 0, 0, 0, 1), row(1, 2, 0, 0, 0, 0), row(0, 1, 2, 0, 0, 0), row(0, 0, 1, 2, 0, 0),
+                row(0, 0, 0, 1, 2, 0), row(0, 0, 0, 0, 1, 2));
+        dueTrade(seven, row(0, 0, 0, 1, 2, 3, 4, 5), row(1, 2, 7, 2, 3, 4, 5, 6), row(0, 1, 0, 0, 2, 3, 4, 5));
     }
 
     private static void roundsOfAll() {
@@ -379,6 +412,7 @@ public final class TradeEdgesTest extends Boards {
         leavingNotSoMany();
         leavingBelowNone();
         leavingOfMost();
+        leavingOfEachTold();
     }
 
     private static void leavingHowMany() {
@@ -431,5 +465,23 @@ public final class TradeEdgesTest extends Boards {
         dueRing(x, 2, 2, 0, 1, 2, 3, 4, 5);
         due("wish(5, 0, 0)", x.wish(5, 0, 0), 5);
         dueRing(x, 2, 2);
+    }
+
+    private static void leavingOfEachTold() {
+        sentence("Promise 25: LEAVING: each told H and M, the others beside it told, too");
+        WishPlaces x = madeAlike(row(3, 3, 2), 8, 1, 2, 3);
+        int[][] rows = {{2, 1, 0, 0, 0, 1, 1, 2}, {0, 2, 1, 0, 0, 1, 1, 2}, {0, 0, 2, 1, 0, 1, 1, 2},
+            {0, 0, 0, 2, 1, 1, 1, 2}};
+        for (int g = 0; g < 4; g++) {
+            tell(x, g, rows[g]);
+        }
+        // Alone, who has a lesser place in M than in H; the first such one.
+        int[][] alone = {{-1, 0, 0, 0}, {1, -1, 1, 1}, {2, 2, -1, 2}, {3, 3, 3, -1}};
+        for (int m = 0; m < 4; m++) {
+            for (int h = 0; h < 4; h++) {
+                due("leaving(" + m + ", " + h + ", 0)", x.leaving(m, h, 0), alone[m][h]);
+                due("leaving(" + m + ", " + h + ", NONE)", x.leaving(m, h, NONE), m == h ? 0 : 1);
+            }
+        }
     }
 }

@@ -132,12 +132,20 @@ public final class VotesEdgesTest extends Boards {
         due("margin(0), a place more", x.margin(0), 1);
         due("give(0, 1, 1)", x.give(0, 1, 1), 1);
         due("margin(0), given", x.margin(0), 0);
+        WishPlaces none = made(row(1), row(0), row(0));
+        for (int what = 5; what <= 9; what++) {
+            none.become(0, what);
+            due("margin(1), no wishes, after become(0, " + what + ")", none.margin(1), 0);
+            none.become(0, what);
+            due("better(1), no wishes, after become(0, " + what + ")", none.better(1), 0);
+        }
     }
 
     // ---- BEATER, promise 16
 
     private static void beaters() {
         beaterIsFirst();
+        beaterOfMostVotes();
         beaterOfNone();
         beaterWithoutMargin();
         beaterHasNone();
@@ -153,6 +161,25 @@ public final class VotesEdgesTest extends Boards {
             due("beater(0, " + a + ")", x.beater(0, a), first[a]);
         }
         dueBecome(x, 0, 7, first);
+    }
+
+    private static void dueBeater(WishPlaces x, int... row) {
+        for (int a = 0; a < row.length; a++) {
+            due("beater(0, " + a + ")", x.beater(0, a), row[a]);
+        }
+        dueBecome(x, 0, 7, row);
+    }
+
+    private static void beaterOfMostVotes() {
+        sentence("Terms 2, promise 16: its BEATER: .. so many: rises and falls alike");
+        // One rises by one who falls: no more votes than its own.
+        WishPlaces one = madeAlike(row(1), 2, 1);
+        tell(one, 0, NONE, 0);
+        dueBeater(one, NONE, 0);
+        // Two rise by one who falls: more votes than its own, though it is later.
+        WishPlaces two = madeAlike(row(1, 1, 1), 3, 3, 2, 1);
+        tell(two, 0, 0, 1, 2);
+        dueBeater(two, 1, 2, NONE);
     }
 
     private static void beaterOfNone() {
@@ -189,6 +216,7 @@ public final class VotesEdgesTest extends Boards {
         factorInLowestTerms();
         factorByNobody();
         factorOfNone();
+        factorOfOne();
         factorAtMost();
     }
 
@@ -259,6 +287,26 @@ public final class VotesEdgesTest extends Boards {
         tell(last, 1, 0, 0);
         due("factor(1), their best is a sixth wish", last.factor(1), 1);
         dueFraction("nobody can rise", last, 0, 1);
+    }
+
+    private static void factorOfOne() {
+        sentence("Terms 2, promise 17: if there are none: not if one ASKER alone can rise, the first or the last");
+        WishPlaces x = largest(6);
+        tell(x, 0, LARGEST_LAST);
+        x.factor(0);
+        dueFraction("nobody of 8 can rise", x, 0, 1);
+        x.wish(0, 0, 5);
+        x.factor(0);
+        dueFraction("the first can rise", x, 1, 0);
+        x.wish(0, 0, 6);
+        x.wish(7, 5, 5);
+        x.factor(0);
+        dueFraction("the last can rise", x, 1, 0);
+        x.give(0, 7, NONE);
+        x.give(0, 0, 0);
+        x.give(0, 7, 5);
+        x.factor(0);
+        dueFraction("the last has risen", x, 0, 1);
     }
 
     private static void factorAtMost() {
@@ -392,6 +440,8 @@ public final class VotesEdgesTest extends Boards {
         sentence("Terms 2, promise 20: STANDING: a GIVING of which the MARGIN is 0");
         dueStanding(ladder(3, 3));
         dueStanding(made(row(1, 1), row(1, 2), row(1, 0)));
+        dueStanding(made(row(1, 1), row(2, 1), row(0, 1)));
+        dueStanding(made(row(1, 1, 1), row(3, 1, 2), row(0, 1, 0), row(0, 0, 6)));
         dueStanding(made(row(2, 1), row(1, 1), row(1, 2), row(2, 1)));
         dueStanding(made(row(1, 1), row(6, 6), row(6, 0), row(0, 6)));
         dueStanding(made(row(1, 2), row(1, 3), row(1, 3)));
