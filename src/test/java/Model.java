@@ -260,7 +260,7 @@ final class Model {
             return row.clone();
         }
         for (int a = 0; a < askers; a++) {
-            boolean used = had > 0 && a < row[0];
+            boolean used = h[a] == NONE || had > 0 && a < row[0];
             for (int i = 0; i < had; i++) {
                 used |= row[i] == a;
             }
